@@ -554,7 +554,7 @@ public final class CupsAndPea {
     // ---- spots, sheets
 
     public int hold(int spot, int pass) {
-        if (!within(spot, 0, SPOTS - 1) || pass != NOTHING && !isPass(pass)) {
+        if (!within(spot, 0, SPOTS - 1) || (pass != NOTHING && !isPass(pass))) {
             return tell(BEYOND);
         }
         table.spots[spot] = pass;
@@ -573,7 +573,7 @@ public final class CupsAndPea {
     }
 
     public int sheet(int s, int bits, int n) {
-        if (!isSheet(s) || bits != 0 && bits != 8 && bits != 16 && bits != 32) {
+        if (!isSheet(s) || !isBits(bits)) {
             return tell(BEYOND);
         }
         if (n < 0) {
@@ -773,6 +773,11 @@ public final class CupsAndPea {
 
     private static boolean isSheet(int s) {
         return within(s, 0, SHEETS - 1);
+    }
+
+    /** Of 0 bits is a sheet that is missing. */
+    private static boolean isBits(int bits) {
+        return bits == 0 || bits == 8 || bits == 16 || bits == 32;
     }
 
     private static boolean within(int v, int least, int most) {
@@ -1358,7 +1363,7 @@ public final class CupsAndPea {
             }
             step();
             int a = takeNumber(0, t.cups - 1);
-            if (a < 0 || sort == NUMBER && number == a) {
+            if (a < 0 || (sort == NUMBER && number == a)) {
                 return false;
             }
             int b = takeNumber(0, t.cups - 1);
