@@ -145,6 +145,16 @@ final class EyesTest {
         y.cups(6);
         y.eye(3, 1, 5);
         Check.due("guess of no passes", 5, y.guess(3));
+        y.pass(SLOW, 5, 4);
+        y.pass(PASS, 4, 5);
+        y.guess(3);
+        y.back();
+        y.back();
+        y.cups(3);
+        y.pass(PASS, 0, 1);
+        y.pass(PASS, 0, 1);
+        Check.due("of places that are there", 0, y.guess(3));
+        Check.due("and may be there", 7, y.may(3));
     }
 
     private static void right() {
@@ -177,6 +187,8 @@ final class EyesTest {
         Check.due("in the hand", 0, x.lost(1));
         Check.due("lost of 4", Check.BEYOND, x.lost(4));
         Check.due("lost of -1", Check.BEYOND, x.lost(-1));
+        CupsAndPea late = Check.with(3, SLOW, 0, 1, FEINT, 1, 2);
+        Check.due("at the last one", 2, late.lost(0));
         // Lost at first, though right in the end.
         CupsAndPea y = Check.with(3, FEINT, 0, 1, FEINT, 0, 1);
         y.eye(0, 0, 0);
@@ -185,6 +197,10 @@ final class EyesTest {
     }
 
     private static void both() {
+        CupsAndPea none = new CupsAndPea();
+        none.eye(2, 1, 2);
+        Check.due("without passes", 0, none.both(0, 3));
+        Check.due("without passes, elsewhere", Check.NONE, none.both(0, 2));
         CupsAndPea x = Check.with(3, PASS, 0, 1, PASS, 1, 2);
         // Eye 0: 16, 16, 68. Eye 1 (slip 1, from 2): 9, 82, 9.
         x.eye(1, 0, 1);

@@ -35,6 +35,11 @@ final class MisleadTest {
         Check.due("as good with a whirl", 0, x.watch(0));
         CupsAndPea y = Check.with(3, SLOW, 0, 1, PASS, 1, 2);
         Check.due("not the slow one", 1, y.watch(0));
+        CupsAndPea aside = Check.with(6, PASS, 3, 4, PASS, 0, 1);
+        aside.eye(0, 0, 1);
+        Check.due("not the one aside", 1, aside.watch(0));
+        aside.back();
+        Check.due("the only one", 0, aside.watch(0));
         y.pea(-1);
         Check.due("nothing helps", 0, y.watch(0));
         Check.due("nothing changed", SLOW, y.of(0, 0));
@@ -50,6 +55,7 @@ final class MisleadTest {
         CupsAndPea y = Check.with(3, PASS, 0, 1, PASS, 1, 2);
         // Feint 0: pea at 0, weight 16. Feint 1: pea at 1, weight 16.
         Check.due("as good", 0, y.feint(0));
+        Check.due("the only one", 0, Check.with(3, PASS, 1, 2).feint(0));
         y.eye(0, 0, 3);
         // Feint 0: at 0: 7 at 1, 3 at 2; slipping 3 of 7 to 0: 21. Feint 1: at 1: from 2: 7 of 3: 21.
         Check.due("as good again", 0, y.feint(0));
@@ -146,6 +152,12 @@ final class MisleadTest {
     }
 
     private static void row() {
+        CupsAndPea less = new CupsAndPea();
+        less.pea(2);
+        less.eye(0, 0, 1);
+        // Of 0, 1: 1 at 2. Of 0, 2: the pea to 0, nothing there.
+        Check.due("less than 1", 0, less.misled(0, 1, PASS));
+        Check.due("less than 1, so", 2, less.row(0, 1, PASS, 0));
         CupsAndPea x = new CupsAndPea();
         Check.due("the first of as good ones", 1, x.row(0, 1, PASS, 0));
         // A feint of 0, 1 brings the weight to 1 and 2.

@@ -60,11 +60,17 @@ final class PassesTest {
         Check.due("cups 2", Check.BEYOND, x.cups(2));
         Check.due("cups 7", Check.BEYOND, x.cups(7));
         x.pea(4);
+        x.eye(0, 1, 5);
         x.eye(1, 1, 5);
+        x.eye(3, 1, 5);
         x.eye(2, 1, 4);
         x.cups(5);
         Check.due("pea is still there", 4, x.now(3));
-        Check.due("the eye's place is not", 0, x.eye(1, 1, 0));
+        for (int eye = 0; eye < 4; eye++) {
+            if (eye != 2) {
+                Check.due("the place of eye " + eye + " is not", 0, x.eye(eye, 1, 0));
+            }
+        }
         Check.due("the other eye's is", 4, x.eye(2, 1, 4));
         x.cups(4);
         Check.due("pea is not there any more", 0, x.now(3));

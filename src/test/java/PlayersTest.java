@@ -184,6 +184,8 @@ final class PlayersTest {
         // 60, 30, 15, 7, 3, 1, 1, 1: then its purse is empty.
         CupsAndPea all = with(118, 60, 9);
         Check.due("all that it has", 118, all.best(0, 10));
+        // -2, then it has 7 and stakes 4: 4, 2.
+        Check.due("what it has won counts", 4, with(5, 2, 2).best(0, 3));
         int[][] beyond = {{-1, 1}, {4, 1}, {0, 0}, {0, 11}, {0, -1}};
         for (int[] b : beyond) {
             Check.due("such a best", Check.BEYOND, most.best(b[0], b[1]));
@@ -239,6 +241,8 @@ final class PlayersTest {
         for (int what = 0; what < due.length; what++) {
             Check.due("now " + what, due[what], x.now(what));
         }
+        x.player(0, PURSE, 0);
+        Check.due("the first as well", 11, x.now(4));
         Check.due("now 5", Check.BEYOND, x.now(5));
         Check.due("now -1", Check.BEYOND, x.now(-1));
     }

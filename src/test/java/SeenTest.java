@@ -120,6 +120,8 @@ final class SeenTest {
         Check.due("of none elsewhere", 0, none.orders(1));
         none.pea(-1);
         Check.due("of none in the hand", 1, none.orders(-1));
+        none.pea(0);
+        Check.due("not in the hand any more", 0, none.orders(-1));
         CupsAndPea same = Check.with(6, SLOW, 4, 5, SLOW, 4, 5, SLOW, 4, 5, SLOW, 4, 5, SLOW, 4, 5, SLOW, 4, 5, SLOW, 4, 5);
         same.pea(4);
         Check.due("of seven alike", 5040, same.orders(5));

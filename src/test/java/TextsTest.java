@@ -120,6 +120,9 @@ final class TextsTest {
         fault("cup 1", 0);
         fault("passe 0 1", 0);
         fault("pas 0 1", 0);
+        fault("bass 0 1", 0);
+        fault("peaz 1", 0);
+        fault("apea 1", 0);
         fault("Pass 0 1", 0);
         fault("3", 0);
         fault("\u0000", 0);
