@@ -1,13 +1,5 @@
 /** Promises 1 to 10: a new object, cups, passes and where they bring what. */
-final class PassesTest {
-    private static final int PASS = 0;
-    private static final int FEINT = 1;
-    private static final int LIFT = 2;
-    private static final int DROP = 3;
-    private static final int WHIRL = 4;
-    private static final int SLOW = 5;
-    private static final int QUICK = 6;
-
+final class PassesTest implements Kinds {
     public static void main(String[] args) {
         newObject();
         cups();

@@ -19,7 +19,7 @@ final class RandomTest {
         "2 lost 0-3", "3 both 0-3 0-3", "2 may 0-3", "2 watch 0-3", "2 feint 0-3", "2 kindFor 0-3 0-13",
         "2 misled 0-3 1-2 0-6", "2 row 0-3 1-2 0-6 0-1", "1 feints -1-5", "1 surely -1-5 0-2", "1 rings", "1 orders -1-5",
         "4 player 0-3 0-2 0-99", "2 player 0-3 2-2 1-9", "3 told 0-3 0-4", "4 round 0-3 0-1", "2 play 0-3 0-3",
-        "2 best 0-3 1-7", "2 should 0-3 1-7", "1 richest 1-5", "3 now 0-4", "1 shuffle 1-12", "1 seed 0-9999999",
+        "2 best 0-3 1-10", "2 should 0-3 1-10", "1 richest 1-10", "3 now 0-4", "1 shuffle 1-12", "1 seed 0-9999999",
         "1 feed 0-99999999 1-4", "1 wipe", "2 text", "3 hold 0-9 -1-13", "6 as 0-9 0-6", "2 sheet 0-3 8-8 0-40",
         "2 sheet 0-3 16-16 0-40", "1 sheet 0-3 32-32 0-40", "1 sheet 0-3 0-0 0-40", "1 sheet 0-3 0-40 0-40",
         "3 write 0-3 0-9 -1-6", "2 write 0-3 0-39 -99999-99999", "4 copy 0-3 0-9 0-3 0-9 0-9", "1 copy 0-3 0-39 0-3 0-39 0-39",

@@ -1,12 +1,5 @@
 /** Promises 23 to 26: what was seen of it. */
-final class SeenTest {
-    private static final int PASS = 0;
-    private static final int FEINT = 1;
-    private static final int LIFT = 2;
-    private static final int DROP = 3;
-    private static final int WHIRL = 4;
-    private static final int SLOW = 5;
-
+final class SeenTest implements Kinds {
     public static void main(String[] args) {
         feints();
         surely();
