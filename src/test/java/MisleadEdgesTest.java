@@ -35,6 +35,15 @@ final class MisleadEdgesTest implements Kinds {
         }
         x.back();
         Check.due("none again", Check.NONE, x.watch(3));
+        // Nobody slips from 1 at the first pass, nor at the slow one: all of it is right, whichever is watched.
+        CupsAndPea all = Check.with(4, PASS, 0, 2, SLOW, 0, 1);
+        all.pea(1);
+        all.eye(2, 1, 1);
+        Check.due("all right at both", 0, all.watch(2));
+        // The pea stays at 3, where nobody thinks that it is.
+        CupsAndPea nothing = Check.with(4, SLOW, 0, 1, PASS, 0, 1);
+        nothing.pea(3);
+        Check.due("nothing right at both", 0, nothing.watch(2));
     }
 
     private static void watchFourteen() {
