@@ -13,6 +13,7 @@ final class MisleadEdgesTest implements Kinds {
         toTheFourteenth();
         behindPasses();
         firstRows();
+        oneIsNotNone();
         rowsOfSix();
         Check.end();
     }
@@ -213,6 +214,22 @@ final class MisleadEdgesTest implements Kinds {
         Check.due("two lifts", 0, x.misled(2, 2, LIFT));
         Check.due("two lifts, the first", 5, x.row(2, 2, LIFT, 0));
         Check.due("two lifts, the second", 1, x.row(2, 2, LIFT, 1));
+    }
+
+    /** A row that leaves one is not the end of the search: another one leaves none. */
+    private static void oneIsNotNone() {
+        CupsAndPea x = new CupsAndPea();
+        x.pea(1);
+        x.eye(0, 1, 1);
+        x.eye(0, 0, 9);
+        // 0, 1 moves it, which it sees by 1; at 0, 2 it stays, but the eye slips by 9 to the place of it.
+        for (int b = 1; b <= 2; b++) {
+            x.pass(LIFT, 0, b);
+            Check.due("a lift of 0 and " + b, 1, x.right(0));
+            x.back();
+        }
+        Check.due("a lift from it", 0, x.misled(0, 1, LIFT));
+        Check.due("a lift from it", 12, x.row(0, 1, LIFT, 0));
     }
 
     private static void rowsOfSix() {
